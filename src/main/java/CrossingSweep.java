@@ -155,8 +155,7 @@ public final class CrossingSweep {
         if (segments.isSame(segment, other)) {
             return 4;
         }
-        Encounter met = picture.encounter;
-        met.study(segments, segment, segments, other);
+        Encounter met = encounterOf(segment, other);
         if (met.kind == Encounter.ALONG) {
             return 3;
         }
@@ -172,8 +171,7 @@ public final class CrossingSweep {
         checkSegment(other);
         checkQuestion(what, 3);
         checkTwo(segment, other);
-        Encounter met = picture.encounter;
-        met.study(segments, segment, segments, other);
+        Encounter met = encounterOf(segment, other);
         if (met.kind != Encounter.MEETING) {
             throw new IllegalStateException("they do not meet");
         }
@@ -186,8 +184,7 @@ public final class CrossingSweep {
         checkSegment(other);
         checkQuestion(what, 3);
         checkTwo(segment, other);
-        Encounter met = picture.encounter;
-        met.study(segments, segment, segments, other);
+        Encounter met = encounterOf(segment, other);
         if (met.kind != Encounter.ALONG) {
             throw new IllegalStateException("they do not lie along one another");
         }
@@ -542,6 +539,11 @@ public final class CrossingSweep {
         isStale = true;
     }
 
+    private Encounter encounterOf(int segment, int other) {
+        picture.encounter.study(segments, segment, segments, other);
+        return picture.encounter;
+    }
+
     private Picture drawn() {
         if (isStale) {
             picture.draw(segments);
@@ -768,7 +770,7 @@ public final class CrossingSweep {
         }
     }
 
-    /** The TAPE, and the reading of it. What a text tells is done to a draft, so that of a wrong one nothing stays. */
+    /** The TAPE and its reader. What a text tells is done to a draft, so that of a wrong one nothing stays. */
     private static final class Script {
         private static final int FED = 20;
 
@@ -1275,19 +1277,17 @@ public final class CrossingSweep {
         }
 
         int leftsIn(int k) {
-            int bits = 0;
-            for (int s = 0; s < segmentsNow; s++) {
-                if (leftEvent[s] == k) {
-                    bits |= 1 << s;
-                }
-            }
-            return bits;
+            return endsIn(leftEvent, k);
         }
 
         int rightsIn(int k) {
+            return endsIn(rightEvent, k);
+        }
+
+        private int endsIn(int[] row, int k) {
             int bits = 0;
             for (int s = 0; s < segmentsNow; s++) {
-                if (rightEvent[s] == k) {
+                if (row[s] == k) {
                     bits |= 1 << s;
                 }
             }

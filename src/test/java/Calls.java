@@ -1,6 +1,8 @@
+import java.lang.reflect.InvocationTargetException;
+import java.lang.reflect.Method;
 import java.util.NoSuchElementException;
 
-/** One call, told by its name and its numbers, asked of the class and of the slow model alike. */
+/** One call, told by its name and its numbers (a boolean counts 1 or 0), asked of the class and of the model alike. */
 final class Calls {
     private Calls() {
     }
@@ -19,85 +21,35 @@ final class Calls {
         }
     }
 
-    private static long bit(boolean answer) {
-        return answer ? 1 : 0;
-    }
-
-    static long ofClass(CrossingSweep x, String name, int[] a) {
-        switch (name) {
-            case "feed": return x.feed(a[0], a[1], a[2], a[3], a[4]);
-            case "end": return bit(x.end(a[0]));
-            case "acts": return x.acts();
-            case "fault": return x.fault();
-            case "add": return x.add(a[0], a[1], a[2], a[3], a[4]);
-            case "cut": return x.cut(a[0]);
-            case "move": return x.move(a[0], a[1], a[2]);
-            case "tint": return x.tint(a[0], a[1]);
-            case "turn": return x.turn();
-            case "undo": return x.undo();
-            case "segment": return x.segment(a[0], a[1]);
-            case "how": return x.how(a[0], a[1]);
-            case "meet": return x.meet(a[0], a[1], a[2]);
-            case "along": return x.along(a[0], a[1], a[2]);
-            case "crossing": return x.crossing(a[0], a[1]);
-            case "event": return x.event(a[0], a[1]);
-            case "status": return x.status(a[0], a[1]);
-            case "rank": return x.rank(a[0], a[1]);
-            case "road": return x.road(a[0], a[1]);
-            case "view": return x.view(a[0]);
-            case "tied": return x.tied(a[0]);
-            case "steps": return x.steps(a[0], a[1]);
-            case "hull": return x.hull(a[0], a[1] != 0);
-            case "on": return x.on(a[0], a[1]);
-            case "at": return x.at(a[0], a[1]);
-            case "next": return x.next(a[0], a[1], a[2] != 0);
-            case "over": return x.over(a[0], a[1]);
-            case "sight": return x.sight(a[0], a[1], a[2], a[3]);
-            case "box": return x.box(a[0], a[1], a[2], a[3]);
-            case "tinted": return x.tinted(a[0], a[1]);
-            case "image": x.image(); return 0;
-            case "back": return bit(x.back());
-            case "count": return x.count(a[0]);
-            default: throw new AssertionError(name);
+    static long ask(Object x, String name, int[] numbers) {
+        Method method = methodOf(x.getClass(), name);
+        Class<?>[] types = method.getParameterTypes();
+        Object[] told = new Object[types.length];
+        for (int i = 0; i < types.length; i++) {
+            told[i] = types[i] == boolean.class ? (Object) (numbers[i] != 0) : (Object) numbers[i];
+        }
+        try {
+            Object answer = method.invoke(x, told);
+            if (answer instanceof Boolean b) {
+                return b ? 1 : 0;
+            }
+            return answer instanceof Number n ? n.longValue() : 0;
+        } catch (InvocationTargetException thrown) {
+            if (thrown.getCause() instanceof RuntimeException cause) {
+                throw cause;
+            }
+            throw new AssertionError(thrown.getCause());
+        } catch (IllegalAccessException never) {
+            throw new AssertionError(never);
         }
     }
 
-    static long ofModel(Reference x, String name, int[] a) {
-        switch (name) {
-            case "feed": return x.feed(a[0], a[1], a[2], a[3], a[4]);
-            case "end": return bit(x.end(a[0]));
-            case "acts": return x.acts();
-            case "fault": return x.fault();
-            case "add": return x.add(a[0], a[1], a[2], a[3], a[4]);
-            case "cut": return x.cut(a[0]);
-            case "move": return x.move(a[0], a[1], a[2]);
-            case "tint": return x.tint(a[0], a[1]);
-            case "turn": return x.turn();
-            case "undo": return x.undo();
-            case "segment": return x.segment(a[0], a[1]);
-            case "how": return x.how(a[0], a[1]);
-            case "meet": return x.meet(a[0], a[1], a[2]);
-            case "along": return x.along(a[0], a[1], a[2]);
-            case "crossing": return x.crossing(a[0], a[1]);
-            case "event": return x.event(a[0], a[1]);
-            case "status": return x.status(a[0], a[1]);
-            case "rank": return x.rank(a[0], a[1]);
-            case "road": return x.road(a[0], a[1]);
-            case "view": return x.view(a[0]);
-            case "tied": return x.tied(a[0]);
-            case "steps": return x.steps(a[0], a[1]);
-            case "hull": return x.hull(a[0], a[1] != 0);
-            case "on": return x.on(a[0], a[1]);
-            case "at": return x.at(a[0], a[1]);
-            case "next": return x.next(a[0], a[1], a[2] != 0);
-            case "over": return x.over(a[0], a[1]);
-            case "sight": return x.sight(a[0], a[1], a[2], a[3]);
-            case "box": return x.box(a[0], a[1], a[2], a[3]);
-            case "tinted": return x.tinted(a[0], a[1]);
-            case "image": x.image(); return 0;
-            case "back": return bit(x.back());
-            case "count": return x.count(a[0]);
-            default: throw new AssertionError(name);
+    private static Method methodOf(Class<?> type, String name) {
+        for (Method method : type.getDeclaredMethods()) {
+            if (method.getName().equals(name)) {
+                return method;
+            }
         }
+        throw new AssertionError(name);
     }
 }

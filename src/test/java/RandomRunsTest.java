@@ -28,7 +28,7 @@ public final class RandomRunsTest {
     }
 
     public static void main(String[] args) {
-        int runs = args.length > 0 ? Integer.parseInt(args[0]) : 400;
+        int runs = args.length > 0 ? Integer.parseInt(args[0]) : 300;
         long first = args.length > 1 ? Long.parseLong(args[1]) : 1;
         long calls = 0;
         for (long seed = first; seed < first + runs; seed++) {
@@ -68,8 +68,8 @@ public final class RandomRunsTest {
             return true;
         }
         made++;
-        String due = Calls.outcome(() -> Calls.ofModel(model, name, numbers));
-        String got = Calls.outcome(() -> Calls.ofClass(asked, name, numbers));
+        String due = Calls.outcome(() -> Calls.ask(model, name, numbers));
+        String got = Calls.outcome(() -> Calls.ask(asked, name, numbers));
         run.add(name + Arrays.toString(numbers) + " -> " + got + (got.equals(due) ? "" : ", due is " + due));
         return got.equals(due);
     }
