@@ -223,6 +223,15 @@ public final class PromisesTest {
         wrongAt(x, 14 * 5, "turn;".repeat(14) + ";");
         due(4, "10 more", tell(x, four + four + "seg 0 4 9 9;seg 0 5 9 9"), 10);
         due(4, "24", x.count(0), 24);
+        wrongAt(x, 400, " ".repeat(390) + "seg 1 2  3");
+        wrongAt(x, 400, " ".repeat(390) + "cut 0 ;cut");
+        wrongAt(x, 400, " ".repeat(390) + "seg 1 2 3-");
+        wrongAt(x, 400, " ".repeat(390) + "seg 1 2 3 ");
+        wrongAt(x, 396, "turn;" + " ".repeat(391) + "turx");
+        due(4, "of 400 bytes", tell(x, " ".repeat(386) + "turn; tint 0 1"), 2);
+        due(4, "of 400 bytes", tell(x, "turn; turn" + " ".repeat(386) + "    "), 2);
+        due(4, "of 400 bytes", tell(x, " ".repeat(390) + "turn; turn"), 2);
+        tell(x, "turn; tint 0 0");
         wrongAt(x, 1, " seg 0 0 9 9 tint 1;turn");
         wrongAt(x, 7, "turn ; seg 0 0 9 9");
         wrongAt(x, 17, "seg 0 0 9 9 tint 4");
@@ -246,7 +255,9 @@ public final class PromisesTest {
             "move 0 by -1 -1", "move 1 by 1", "move 1 by 994 0", "  move 1 by 0 -1", "  move 0 by 0 -1", "tint 0",
             "tint 0 4", "tint 2 0", "tint 0 1 2", "turn turn", "turn 1", ";", "turn;;turn", "turn; ", "turn ,",
             "\u00e9", "turn\0", "turnx", "t", "seg 1 2 3 4 t", "seg 1 2 3 4 tintx 1", "move 0 byx 1 1", "1", "-",
-            "cut 0; cut 1", "turn; seg 1 2 3 4; cut 4", "tint 0 12", "move 2 by 1 1", "cut\t0"};
+            "cut 0; cut 1", "turn; seg 1 2 3 4; cut 4", "tint 0 12", "move 2 by 1 1", "cut\t0",
+            "seg 1 2 3 4 tint 9 9", "move 0 by 1 x 1", "tint 0 7 x", "cut 9 x", "move 9 by x",
+            "move 0 by 1 9999 x", "turna", "turnz", "aturn", "z", "turn`", "turn{"};
         int[] places = {0, 0, 3, 0, 4, 5, 9, 12,
             12, 17, 17, 19,
             4, 6, 8, 9, 9, 9,
@@ -254,7 +265,8 @@ public final class PromisesTest {
             0, 11, 0, NONE, 2, 6,
             7, 5, 9, 5, 5, 0, 5, 6, 5,
             0, 4, 0, 0, 12, 12, 7, 0, 0,
-            11, 23, 7, 5, 3};
+            11, 23, 7, 5, 3,
+            17, 12, 7, 4, 5, 12, 0, 0, 0, 0, 4, 4};
         for (int i = 0; i < texts.length; i++) {
             if (places[i] == NONE) {
                 due(4, texts[i], tell(x, texts[i]), 1);
@@ -263,12 +275,12 @@ public final class PromisesTest {
                 wrongAt(x, places[i], texts[i]);
             }
         }
-        due(5, "it stays until the next text", x.fault(), 3);
+        due(5, "it stays until the next text", x.fault(), 4);
         x.add(0, 0, 0, 0, 0);
         x.undo();
         x.image();
         x.back();
-        due(5, "the IMAGE has none of it", x.fault(), 3);
+        due(5, "the IMAGE has none of it", x.fault(), 4);
         tell(x, "turn");
         due(5, "a right text", x.fault(), NONE);
     }
@@ -333,6 +345,12 @@ public final class PromisesTest {
         refused(8, x, ARGUMENT, () -> x.move(0, -1989, 0));
         refused(8, x, INDEX, () -> x.move(3, 0, 0));
         refused(8, x, INDEX, () -> x.move(-1, MOST, 0));
+        CrossingSweep wide = of("seg -999 -999 5 5; seg 5 5 999 999; seg -3 999 3 -5");
+        refused(8, wide, ARGUMENT, () -> wide.move(0, -1, 0));
+        refused(8, wide, ARGUMENT, () -> wide.move(0, 0, -1));
+        refused(8, wide, ARGUMENT, () -> wide.move(1, 1, 0));
+        refused(8, wide, ARGUMENT, () -> wide.move(1, 0, 1));
+        refused(8, wide, ARGUMENT, () -> wide.move(2, 0, 1));
         due(8, "two back", x.move(1, 0, -50), 1);
     }
 
@@ -427,6 +445,9 @@ public final class PromisesTest {
         CrossingSweep third = of("seg 0 0 9 0; seg 0 0 9 0; seg 3 -3 3 3; seg 9 0 12 0");
         due(12, "CROSSINGS of others that lie on it count", third.segment(0, 6), 2);
         due(12, "and for the upright one", third.segment(2, 6), 1);
+        CrossingSweep like = of("seg 0 0 9 0; seg 0 0 9 0; seg 0 0 9 0");
+        due(12, "like ones are one PART", like.segment(1, 8), 7);
+        due(12, "of one PIECE", like.segment(1, 7), 1);
     }
 
     private static void hows() {
@@ -440,6 +461,17 @@ public final class PromisesTest {
         due(13, "like mere points", x.how(7, 8), 4);
         due(13, "in the END of one and none of the other", x.how(2, 4), 1);
         due(13, "apart", x.how(9, 6), 0);
+        CrossingSweep slanted = of("seg 0 0 7 5; seg 7 0 7 9; seg 4 9 7 5; seg 0 9 7 5; seg 1 1 8 2");
+        due(13, "in its RIGHT", slanted.how(0, 1), 1);
+        due(13, "and back", slanted.how(1, 0), 1);
+        due(13, "in the RIGHT of both", slanted.how(0, 3), 1);
+        due(13, "in no END", slanted.how(0, 4), 2);
+        CrossingSweep apart = of("seg 0 0 0 2; seg 0 5 0 7; seg 0 2 0 5; seg 3 0 4 0; seg 6 0 7 0; seg 3 1 4 1");
+        due(13, "in one upright line, but apart", apart.how(0, 1), 0);
+        due(13, "and back", apart.how(1, 0), 0);
+        due(13, "in one upright line, END to END", apart.how(2, 1), 1);
+        due(13, "in one level line, but apart", apart.how(4, 3), 0);
+        due(13, "beside one another", apart.how(3, 5), 0);
         refused(13, x, ARGUMENT, () -> x.how(3, 3));
         refused(13, x, INDEX, () -> x.how(10, 0));
         refused(13, x, INDEX, () -> x.how(0, 10));
@@ -613,6 +645,8 @@ public final class PromisesTest {
         due(20, "none back", x.road(8, 0), NONE);
         due(20, "apart itself", x.road(9, 8), 1);
         due(20, "from end to end", x.road(3, 7), 3);
+        due(20, "to the first one", x.road(7, 0), 3);
+        due(20, "back from the upright one", x.road(5, 0), 3);
         refused(20, x, INDEX, () -> x.road(10, 0));
         refused(20, x, INDEX, () -> x.road(0, 10));
         refused(20, x, INDEX, () -> x.road(-1, 0));
@@ -635,6 +669,8 @@ public final class PromisesTest {
         for (int k = 0; k < 4; k++) {
             due(21, "seen, and nobody", gaps.view(k), seen[k]);
         }
+        due(21, "nobody first", of("seg 0 0 0 0; seg 5 5 9 9").view(NONE), 2);
+        due(21, "then one", of("seg 0 0 0 0; seg 5 5 9 9").view(1), 1);
         due(21, "of one X", of("seg 4 0 4 9").view(NONE), 0);
         due(21, "of one X nobody", of("seg 4 0 4 9").view(0), NONE);
         due(21, "of none", new CrossingSweep().view(NONE), 0);
@@ -684,6 +720,14 @@ public final class PromisesTest {
         hullIs(of("seg 2 9 2 1; seg 2 4 2 30"), 2, 1, 2, 30);
         hullIs(of("seg 0 0 4 0; seg 0 4 4 4; seg 0 2 4 2; seg 2 0 2 4; seg 1 1 3 3"), 0, 0, 4, 0, 4, 4, 0, 4);
         hullIs(of("seg 5 5 0 0; seg 5 -5 5 5"), 0, 0, 5, -5, 5, 5);
+        CrossingSweep bow = new CrossingSweep();
+        for (int i = 0; i < 24; i++) {
+            int away = (i - 12) * (i - 12);
+            bow.add(away - 999, 83 * i - 955, 999 - away, 83 * i - 955, 0);
+        }
+        due(24, "all ENDS", bow.count(14), 48);
+        due(24, "the last one", bow.hull(47, false), 1 - 999);
+        due(24, "the last one", bow.hull(47, true), 83 * 13 - 955);
     }
 
     private static void onOnes() {
@@ -769,6 +813,9 @@ public final class PromisesTest {
         refused(29, x, ARGUMENT, () -> x.sight(0, 0, 0, -1000));
         CrossingSweep close = of("seg 0 9 10 8; seg 0 9 10 7; seg 0 1 0 1");
         due(29, "of parts the nearest", close.sight(3, 0, 3, 9), 1);
+        due(29, "from the other side", close.sight(3, 9, 3, 0), 0);
+        due(29, "slanted", of("seg 5 0 6 9; seg 4 1 8 0; seg 0 9 9 0; seg 3 0 4 1").sight(0, 0, 9, 8), 2);
+        due(29, "below 0", of("seg -5 -3 -3 -5; seg -9 -3 -6 -9; seg -4 -3 -3 -4").sight(-9, -9, 0, 0), 1);
     }
 
     private static void boxes() {
@@ -782,6 +829,9 @@ public final class PromisesTest {
         due(30, "a corner touched", x.box(6, 6, 8, 8), 1 | 16);
         due(30, "past the corner", x.box(20, -20, 25, -1), 0);
         due(30, "at the corner", x.box(20, -20, 25, 0), 64);
+        CrossingSweep corners = of("seg -4 4 4 -4; seg 8 12 12 8; seg 9 -1 11 1; seg -2 8 2 12; seg -4 3 4 -4;"
+                + "seg 8 13 12 8; seg 9 -2 12 1; seg -2 9 2 13");
+        due(30, "four lines touch a corner, four pass it by", corners.box(0, 0, 10, 10), 15);
         due(30, "beyond the END", x.box(-9, 11, -1, 30), 0);
         refused(30, x, ARGUMENT, () -> x.box(1, 0, 0, 5));
         refused(30, x, ARGUMENT, () -> x.box(0, 1, 5, 0));
@@ -871,14 +921,58 @@ public final class PromisesTest {
         countsAre(x, 24, 144, 192, 0, 24 * 13, 1, 24 * 13 + 2 - 192, 2, 13, 12, 0, 8, 48, 144, 8, 144);
         due(16, "the last", x.crossing(143, 2), 22);
         due(20, "from end to end", x.road(0, 191), 24);
-        // all 24 across one another, each two in a point of their own
-        CrossingSweep fan = new CrossingSweep();
+        everyTwoCross();
+        blames();
+    }
+
+    /** As many EVENTS as there can be. */
+    private static void everyTwoCross() {
+        CrossingSweep x = new CrossingSweep();
         for (int i = 0; i < 24; i++) {
-            fan.add(-999 + i, -40 * i, 999 - i * i, 40 * i + 31 * (i % 7), 2);
+            int bow = (i - 12) * (i - 12);
+            x.add(bow - 999, 83 * i - 955 + i % 2, 999 - bow, 955 - 83 * i - i * i * i % 15, 2);
         }
-        due(34, "CROSSINGS", fan.count(1), fan.count(15));
-        due(34, "SPREADS", fan.count(13), fan.count(15));
-        due(34, "FACES of one part", fan.count(6), fan.count(4) + 2 - fan.count(2));
-        due(31, "all are of one TINT", fan.tinted(2, 2), fan.count(1));
+        int[] want = {24, 276, 324, 0, 24 * 24, 1, 24 * 24 + 2 - 324, 2, 24, 47, 0, 8, 48, 276, 46, 276};
+        want[9] = firstWithAll(x);
+        countsAre(x, want);
+        due(16, "one behind the last", x.crossing(275, 4), 2);
+        due(17, "the last", x.event(323, 5), x.event(323, 5) & -x.event(323, 5));
+        due(18, "the last", x.status(323, NONE), 0);
+        due(18, "all of them", x.status(x.count(9), 23) != NONE, true);
+        due(19, "not yet", x.rank(0, 323), NONE);
+        due(20, "from end to end", x.road(0, 323) > 1, true);
+        due(21, "12 to 23 as they begin, one between, 0 to 12 as they end", x.view(NONE), 26);
+        due(22, "all others", x.tied(23), (1 << 23) - 1);
+        due(23, "one", x.steps(0, 23), 1);
+        due(12, "CROSSINGS", x.segment(11, 6), 23);
+        due(12, "PIECES", x.segment(11, 7), 24);
+        due(12, "PART", x.segment(11, 8), (1 << 24) - 1);
+        due(25, "the last", x.on(23, 22) != NONE, true);
+        due(25, "without", x.on(23, 23), NONE);
+        due(28, "none above all", x.over(0, 999), 0);
+        due(30, "all", x.box(-999, -999, 999, 999), (1 << 24) - 1);
+        due(31, "all are of one TINT", x.tinted(2, 2), 276);
+        due(7, "one less", x.cut(5), 23);
+        due(10, "turned", x.turn(), 46 + 253);
+    }
+
+    private static int firstWithAll(CrossingSweep x) {
+        for (int k = 0; k < 324; k++) {
+            if (x.status(k, NONE) == 24) {
+                return k;
+            }
+        }
+        return NONE;
+    }
+
+    private static void blames() {
+        due(34, "who makes two", of("seg 0 0 9 0; seg 1 -1 1 1; seg 2 -2 2 2; seg 0 5 9 5").count(10), 0);
+        due(34, "the last", of("seg 1 -1 1 1; seg 2 -2 2 2; seg 0 0 9 0").count(10), 2);
+        due(34, "of several the least", of("seg 50 50 60 60; seg 1 -1 1 1; seg 0 0 9 0").count(10), 1);
+        due(34, "of many in one point none takes it away", of("seg 0 5 9 5; seg 0 2 6 8; seg 0 8 6 2; seg 3 0 3 9;"
+                + "seg 20 0 20 9; seg 19 3 21 3").count(10), 4);
+        due(34, "those ALONG one another do not MEET", of("seg 5 -5 5 5; seg 0 0 9 0; seg 2 0 11 0").count(10), 0);
+        due(34, "one in whose point two others MEET", of("seg 0 0 4 4; seg 0 4 4 0; seg 2 0 2 4; seg 9 9 9 9;"
+                + "seg 8 9 9 9").count(10), 3);
     }
 }

@@ -1,3 +1,4 @@
+import java.math.BigInteger;
 import java.nio.charset.StandardCharsets;
 import java.util.ArrayList;
 import java.util.Arrays;
@@ -13,6 +14,7 @@ public final class RandomRunsTest {
     private final int reach;
     private final int middle;
     private final int wanted;
+    private final boolean isFan;
     private final CrossingSweep asked = new CrossingSweep();
     private final Reference model = new Reference();
     private final List<String> run = new ArrayList<>();
@@ -23,6 +25,7 @@ public final class RandomRunsTest {
         int[] reaches = {1, 2, 3, 5, 12, 40, 300, 999};
         reach = reaches[chance.nextInt(reaches.length)];
         middle = chance.nextInt(4) == 0 ? (999 - reach) * (chance.nextBoolean() ? 1 : -1) : 0;
+        isFan = seed % 20 == 0;
         int[] many = {2, 5, 8, 12, 24};
         wanted = many[chance.nextInt(many.length)];
     }
@@ -49,14 +52,36 @@ public final class RandomRunsTest {
                 return false;
             }
         }
+        if (isFan && !fills()) {
+            return false;
+        }
         int tries = wanted * 2;
         for (int i = 0; i < tries && made < 300; i++) {
-            if (model.count(0) < wanted && !ask("add", number(), number(), number(), number(), chance.nextInt(4))) {
+            if (model.count(0) < wanted && !addOne()) {
                 return false;
             }
         }
         while (made < 512) {
             if (!(chance.nextInt(9) == 0 ? changeOrTell() : question())) {
+                return false;
+            }
+        }
+        return true;
+    }
+
+    /** As many EVENTS and ENDS of HULL as there can be: each two cross, in a point of their own. */
+    private boolean fills() {
+        while (model.count(0) > 0) {
+            if (!ask("cut", 0)) {
+                return false;
+            }
+        }
+        for (int i = 0; i < 24; i++) {
+            // ENDS on a bow to the left and one to the right
+            int lift = 83 * i - 955 + chance.nextInt(9);
+            int bow = (i - 12) * (i - 12) + chance.nextInt(2);
+            int drop = 83 * i - 955 + chance.nextInt(9);
+            if (!ask("add", bow - 999, lift, 999 - bow, -drop, tintNumber())) {
                 return false;
             }
         }
@@ -98,9 +123,9 @@ public final class RandomRunsTest {
     private boolean changeOrTell() {
         switch (chance.nextInt(13)) {
             case 0: case 1: case 2: case 3:
-                return ask("add", number(), number(), number(), number(), tintNumber());
+                return addOne();
             case 4:
-                return ask("cut", one());
+                return chance.nextInt(2) == 0 ? addOne() : ask("cut", one());
             case 5:
                 int far = reach / 3 + 2;
                 return ask("move", one(), chance.nextInt(far) - far / 2, chance.nextInt(far) - far / 2);
@@ -109,7 +134,7 @@ public final class RandomRunsTest {
             case 7:
                 return ask("tint", one(), tintNumber());
             case 8:
-                return chance.nextInt(3) == 0 ? ask("turn") : ask("undo");
+                return chance.nextInt(2) == 0 ? ask("turn") : ask("undo");
             case 9:
                 return chance.nextInt(3) != 0 ? ask("image") : chance.nextInt(2) != 0 || ask("back");
             case 10: case 11:
@@ -118,6 +143,54 @@ public final class RandomRunsTest {
                 return ask("feed", chance.nextInt(), chance.nextInt(), chance.nextInt(), chance.nextInt(), 0)
                         && ask("end", below(400)) && (chance.nextInt(3) != 0 || ask("acts")) && ask("fault");
         }
+    }
+
+    /** Often upright, level, a mere point, or one that has to do with one that there is. */
+    private boolean addOne() {
+        int x = number();
+        int y = number();
+        int size = model.count(0);
+        int other = size > 0 ? chance.nextInt(size) : 0;
+        switch (size > 0 ? chance.nextInt(11) : 10) {
+            case 0:
+                return ask("add", x, y, x, number(), tintNumber());
+            case 1:
+                return ask("add", x, y, number(), y, tintNumber());
+            case 2:
+                return ask("add", x, y, x, y, tintNumber());
+            case 3:
+                return ask("add", model.segment(other, 2), model.segment(other, 3), x, y, tintNumber());
+            case 4:
+                return ask("add", model.segment(other, 0), y, model.segment(other, 0), number(), tintNumber());
+            case 5:
+                return ask("add", x, model.segment(other, 3), number(), model.segment(other, 3), tintNumber());
+            case 6: case 7:
+                return addInLine(other);
+            default:
+                return ask("add", x, y, number(), number(), tintNumber());
+        }
+    }
+
+    private boolean addInLine(int other) {
+        int x = model.segment(other, 0);
+        int y = model.segment(other, 1);
+        int wayX = model.segment(other, 2) - x;
+        int wayY = model.segment(other, 3) - y;
+        int shared = Math.max(BigInteger.valueOf(wayX).gcd(BigInteger.valueOf(wayY)).intValue(), 1);
+        int from = chance.nextInt(3 * shared) - shared;
+        int to = chance.nextInt(4) == 0 ? chance.nextInt(2) * shared : chance.nextInt(3 * shared) - shared;
+        return ask("add", x + wayX / shared * from, y + wayY / shared * from, x + wayX / shared * to,
+                y + wayY / shared * to, tintNumber());
+    }
+
+    private int boxSide(int from) {
+        return chance.nextInt(5) == 0 ? number() : from + chance.nextInt(reach + 1);
+    }
+
+    private boolean askBox() {
+        int x = number();
+        int y = number();
+        return ask("box", x, y, boxSide(x), boxSide(y));
     }
 
     private boolean tellText() {
@@ -140,11 +213,11 @@ public final class RandomRunsTest {
     private String text() {
         StringBuilder text = new StringBuilder();
         int size = model.count(0);
-        int acts = chance.nextInt(3) == 0 ? chance.nextInt(17) : chance.nextInt(4);
+        int acts = chance.nextInt(4) == 0 ? chance.nextInt(17) : chance.nextInt(4);
         for (int i = 0; i < acts; i++) {
             text.append(i > 0 ? ";" : "").append(blanks(false));
-            switch (chance.nextInt(6)) {
-                case 0: case 1:
+            switch (chance.nextInt(8)) {
+                case 0: case 1: case 5: case 6:
                     text.append("seg").append(signs(4));
                     text.append(chance.nextInt(2) == 0 ? "" : blanks(false) + "tint" + blanks(false) + tintNumber());
                     size++;
@@ -227,7 +300,7 @@ public final class RandomRunsTest {
             case 17: return ask("next", number(), number(), chance.nextInt(2));
             case 18: return ask("over", number(), number());
             case 19: return ask("sight", number(), number(), number(), number());
-            case 20: return ask("box", number(), number(), number(), number());
+            case 20: return askBox();
             case 21: return ask("tinted", tintNumber(), tintNumber());
             default: return ask("count", chance.nextInt(18) - 1);
         }
