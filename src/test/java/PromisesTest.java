@@ -1,23 +1,11 @@
-import java.nio.charset.StandardCharsets;
-
 /** The promises one by one: ordinary numbers, the edges that the document names, and wrong numbers. */
-public final class PromisesTest {
-    private static final int NONE = CrossingSweep.NONE;
-    private static final int LEAST = Integer.MIN_VALUE;
-    private static final int MOST = Integer.MAX_VALUE;
-    private static final String INDEX = "IndexOutOfBoundsException";
-    private static final String NO_SUCH = "NoSuchElementException";
-    private static final String ARGUMENT = "IllegalArgumentException";
-    private static final String STATE = "IllegalStateException";
+public final class PromisesTest extends Checks {
     /** Two that cross in 0 0, an upright one through it, and a level one through all. */
     private static final String STAR = "seg -10 -10 10 10; seg -10 10 10 -10 tint 1; seg 0 -5 0 5 tint 2;"
             + "seg 20 0 -20 0 tint 1";
     /** Three in a row that lie along the X axis, one above them, and a mere point in the first. */
     private static final String ROW = "seg 0 0 10 0; seg 4 0 14 0 tint 1; seg 14 0 20 0 tint 2; seg 0 5 20 5 tint 3;"
             + "seg 7 0 7 0 tint 1";
-
-    private static int wrong = 0;
-    private static int asked = 0;
 
     private PromisesTest() {
     }
@@ -59,76 +47,7 @@ public final class PromisesTest {
         images();
         counts();
         countsOfMany();
-        System.out.println(asked + " answers asked for, " + wrong + " of them wrong");
-        if (wrong != 0) {
-            System.exit(1);
-        }
-    }
-
-    private static void due(int promise, String what, long got, long want) {
-        asked++;
-        if (got != want) {
-            wrong++;
-            System.out.println("promise " + promise + ": " + what + " answered " + got + ", due is " + want);
-        }
-    }
-
-    private static void due(int promise, String what, boolean got, boolean want) {
-        due(promise, what, got ? 1 : 0, want ? 1 : 0);
-    }
-
-    /** That just this is thrown, and that nothing is another one behind it. */
-    private static void refused(int promise, CrossingSweep x, String name, Calls.Asked call) {
-        asked++;
-        String ahead = seen(x);
-        String got = Calls.outcome(call);
-        if (!got.equals(name)) {
-            wrong++;
-            System.out.println("promise " + promise + ": " + got + ", due is " + name);
-        }
-        String behind = seen(x);
-        if (!behind.equals(ahead)) {
-            wrong++;
-            System.out.println("promise " + promise + ": a call that throws made of " + ahead + " this: " + behind);
-        }
-    }
-
-    private static String seen(CrossingSweep x) {
-        StringBuilder text = new StringBuilder();
-        for (int what = 0; what < 16; what++) {
-            text.append(x.count(what)).append(' ');
-        }
-        for (int s = 0; s < x.count(0); s++) {
-            for (int what = 0; what < 5; what++) {
-                text.append(x.segment(s, what)).append(what < 4 ? ',' : ' ');
-            }
-        }
-        return text.toString();
-    }
-
-    private static void put(CrossingSweep x, String text) {
-        byte[] bytes = text.getBytes(StandardCharsets.ISO_8859_1);
-        int behind = 0;
-        for (int i = 0; i < bytes.length; i += 20) {
-            int[] five = new int[5];
-            for (int j = 0; j < 20; j++) {
-                five[j / 4] = five[j / 4] << 8 | (i + j < bytes.length ? bytes[i + j] & 255 : 0);
-            }
-            behind = x.feed(five[0], five[1], five[2], five[3], five[4]);
-        }
-        int rest = (20 - bytes.length % 20) % 20;
-        x.end(behind - rest);
-    }
-
-    private static int tell(CrossingSweep x, String text) {
-        put(x, text);
-        return x.acts();
-    }
-
-    private static CrossingSweep of(String text) {
-        CrossingSweep x = new CrossingSweep();
-        tell(x, text);
-        return x;
+        finish();
     }
 
     private static void newObject() {
@@ -203,7 +122,8 @@ public final class PromisesTest {
     private static void actsThatAreWrong() {
         CrossingSweep x = of("seg 0 0 1 1");
         x.add(1, 1, 2, 2, 3);
-        for (String text : new String[] {"cut 2", "turn; seg 1 1 1 1; cut 3", "seg 1 1 1 1; move 0 by 999 0", "turn;"}) {
+        for (String text : new String[] {"cut 2", "turn; seg 1 1 1 1; cut 3", "seg 1 1 1 1; move 0 by 999 0",
+            "turn;"}) {
             put(x, text);
             refused(4, x, ARGUMENT, x::acts);
             due(4, "the TAPE is used up", x.end(1), false);
@@ -239,15 +159,7 @@ public final class PromisesTest {
         due(4, "one cut, one more", tell(x, "cut 23; seg 0 0 9 9"), 2);
     }
 
-    private static void wrongAt(CrossingSweep x, int place, String text) {
-        put(x, text);
-        refused(4, x, ARGUMENT, x::acts);
-        due(5, "'" + text + "'", x.fault(), place);
-    }
-
     private static void faults() {
-        CrossingSweep x = new CrossingSweep();
-        tell(x, "seg 0 0 999 -999; seg 5 5 6 6");
         String[] texts = {"x", "Seg 0 0 1 1", "seg", "segs 0 0 1 1", "seg x", "seg 1", "seg 1 2 3", "seg 1 2 3 4 5",
             "seg 1 2 3 4 cut 0", "seg 1 2 3 4 tint 4", "seg 1 2 3 4 tint -1", "seg 1 2 3 4 tint 1 tint 1",
             "seg 1000 1 1 1", "seg 1 -1000 1 1", "seg 1 2 0001 1", "seg 1 2 - 3 4", "seg 1 2 -", "seg 1 2 --3 4",
@@ -268,13 +180,15 @@ public final class PromisesTest {
             11, 23, 7, 5, 3,
             17, 12, 7, 4, 5, 12, 0, 0, 0, 0, 4, 4};
         for (int i = 0; i < texts.length; i++) {
+            CrossingSweep x = of("seg 0 0 999 -999; seg 5 5 6 6");
             if (places[i] == NONE) {
-                due(4, texts[i], tell(x, texts[i]), 1);
-                due(5, texts[i], x.fault(), NONE);
+                right(x, 1, texts[i]);
             } else {
                 wrongAt(x, places[i], texts[i]);
             }
         }
+        CrossingSweep x = new CrossingSweep();
+        wrongAt(x, 4, "turn{");
         due(5, "it stays until the next text", x.fault(), 4);
         x.add(0, 0, 0, 0, 0);
         x.undo();
@@ -759,7 +673,8 @@ public final class PromisesTest {
     }
 
     private static void nexts() {
-        CrossingSweep x = of("seg 0 0 9 0; seg 0 10 9 10; seg 5 2 5 4; seg 5 6 5 6; seg 0 0 9 0; seg 0 1 3 2; seg 0 1 3 3;"
+        CrossingSweep x = of("seg 0 0 9 0; seg 0 10 9 10; seg 5 2 5 4; seg 5 6 5 6; seg 0 0 9 0; seg 0 1 3 2;"
+                + "seg 0 1 3 3;"
                 + "seg 9 3 20 3");
         due(27, "down to the upright one's end", x.next(5, 5, false), 2);
         due(27, "up to the mere point", x.next(5, 5, true), 3);
