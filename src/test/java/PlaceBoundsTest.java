@@ -112,6 +112,13 @@ public final class PlaceBoundsTest extends Checks {
         CrossingSweep about = of("seg -998 0 999 1; seg -999 0 999 1");
         due(27, "the nearest above by parts", about.next(0, 0, true), 0);
         due(27, "the nearest below by parts", about.next(0, 1, false), 1);
+        CrossingSweep upright = of("seg 5 10 5 20; seg 0 6 9 6; seg 5 -10 5 -20; seg 0 -6 9 -6");
+        due(27, "an upright one by its nearer END", upright.next(5, 0, true), 1);
+        due(27, "an upright one by its nearer END", upright.next(5, 0, false), 3);
+        due(27, "it is the nearest", upright.next(5, 7, true), 0);
+        due(27, "it is the nearest", upright.next(5, -7, false), 2);
+        due(27, "of like far ones the least", of("seg 5 10 5 20; seg 0 10 9 10").next(5, 0, true), 0);
+        due(27, "of like far ones the least", of("seg 0 10 9 10; seg 5 10 5 20").next(5, 0, true), 0);
         CrossingSweep half = of("seg 0 0 2 1; seg 0 1 4 -1");
         due(27, "less than one away", half.next(1, 0, true), 0);
         due(27, "less than one away", half.next(1, 1, false), 0);
@@ -169,6 +176,24 @@ public final class PlaceBoundsTest extends Checks {
         CrossingSweep close = of("seg -931 -881 958 936; seg -967 -956 856 887");
         due(29, "the nearest to the last part", close.sight(-999, 914, 575, -999), 1);
         due(29, "and from the other end", close.sight(575, -999, -999, 914), 0);
+        for (int up : new int[] {1, -1}) {
+            CrossingSweep slanted = new CrossingSweep();
+            slanted.add(6, 6 * up, 8, 8 * up, 0);
+            slanted.add(3, 3 * up, 5, 5 * up, 0);
+            slanted.add(2, 3 * up, 5, 0, 0);
+            due(29, "slanted, one across ahead of two ALONG it", slanted.sight(0, 0, 9, 9 * up), 2);
+            due(29, "the one ALONG it ahead", slanted.sight(9, 9 * up, 0, 0), 0);
+            slanted.cut(2);
+            due(29, "the nearer one of two ALONG it", slanted.sight(0, 0, 9, 9 * up), 1);
+            due(29, "from between", slanted.sight(4, 4 * up, 9, 9 * up), 1);
+            slanted.add(4, 5 * up, 5, 4 * up, 0);
+            due(29, "one across in it", slanted.sight(0, 0, 9, 9 * up), 1);
+            slanted.move(1, 1, up);
+            due(29, "one across behind its END", slanted.sight(0, 0, 9, 9 * up), 1);
+            slanted.move(1, 1, up);
+            due(29, "one across ahead of it", slanted.sight(0, 0, 9, 9 * up), 2);
+            due(29, "not from behind", slanted.sight(9, 9 * up, 0, 0), 0);
+        }
         due(29, "across all", all().sight(-999, 0, 999, 0), 0);
         due(29, "across all, about", all().sight(999, -998, -999, -998), 1);
     }
@@ -210,6 +235,13 @@ public final class PlaceBoundsTest extends Checks {
         CrossingSweep in = of("seg -3 2 3 -2; seg 7 -2 11 2; seg -3 4 3 10; seg 6 10 12 4; seg -3 3 3 -2;"
                 + "seg 7 -2 11 3");
         due(30, "through each corner, and close to it", in.box(0, 0, 9, 7), 63);
+        CrossingSweep least = of("seg -2 1 1 -1; seg 8 -1 11 1; seg -2 6 1 8; seg 8 8 11 6");
+        due(30, "past each corner by the least part", least.box(0, 0, 9, 7), 0);
+        due(30, "past a point by the least part", least.box(0, 0, 0, 0), 0);
+        due(30, "past a point by the least part", least.box(9, 0, 9, 0), 0);
+        due(30, "past a point by the least part", least.box(0, 7, 0, 7), 0);
+        due(30, "past a point by the least part", least.box(9, 7, 9, 7), 0);
+        due(30, "the point beside it", least.box(1, -1, 1, -1), 1);
         CrossingSweep across = of("seg -9 3 20 4; seg 4 -9 5 20; seg -9 -9 20 20; seg -9 20 20 -9;"
                 + "seg -999 -999 999 999");
         due(30, "across it with no END in it", across.box(0, 0, 9, 9), 31);
@@ -309,6 +341,8 @@ public final class PlaceBoundsTest extends Checks {
         countIs(5, 2, "seg 0 0 4 0; seg 0 1 4 1");
         countIs(5, 1, "seg 0 0 4 0; seg 4 0 4 1");
         countIs(5, 1, "seg 0 0 4 0; seg 9 0 12 0; seg 3 0 10 0");
+        countIs(5, 2, "seg 0 0 4 0; seg 9 9 9 9; seg 4 0 4 1; seg 9 9 20 9; seg 4 1 0 1");
+        countIs(5, 3, "seg 0 0 4 0; seg 9 9 9 9; seg 4 0 4 1; seg 30 30 30 30; seg 9 9 20 9; seg 4 1 0 1");
         countIs(6, 1, "seg 0 0 4 0; seg 0 1 4 1");
         countIs(6, 2, "seg 0 0 4 0; seg 4 0 4 4; seg 4 4 0 0");
         countIs(6, 3, "seg 0 0 4 0; seg 4 0 4 4; seg 4 4 0 0; seg 3 -1 3 9");
@@ -396,6 +430,8 @@ public final class PlaceBoundsTest extends Checks {
         due(34, "and not behind the one ahead", x.status(x.count(9) - 1, NONE) < 24, true);
         due(16, "the last CROSSING", x.crossing(275, 4), 2);
         due(17, "the last EVENT", x.event(323, 7), NONE);
+        due(20, "to the last EVENT and back", x.road(0, 323), x.road(323, 0));
+        due(20, "there is one", x.road(0, 323) > 1, true);
         due(16, "none behind it", Calls.outcome(() -> x.crossing(276, 4)), INDEX);
         due(17, "none behind it", Calls.outcome(() -> x.event(324, 4)), INDEX);
     }

@@ -134,8 +134,12 @@ public final class QuestionBoundsTest extends Checks {
         howIs(2, "seg 0 0 6 3; seg 0 3 6 0");
         howIs(2, "seg 0 0 9 9; seg 1 0 0 1");
         howIs(2, "seg 0 0 9 1; seg 1 -1 2 1");
+        howIs(2, "seg 5 -5 5 5; seg 0 0 9 0");
+        howIs(2, "seg 5 -5 5 5; seg 4 -5 6 5");
         howIs(1, "seg 0 0 6 3; seg 6 3 8 4");
         howIs(1, "seg 0 0 6 3; seg 6 3 8 9");
+        howIs(1, "seg 0 0 1 0; seg 0 0 0 1");
+        howIs(1, "seg 0 0 1 0; seg 1 0 2 1");
         howIs(1, "seg 0 0 6 3; seg 4 2 4 9");
         howIs(1, "seg 0 0 6 3; seg 4 -9 4 2");
         howIs(1, "seg 0 0 6 3; seg 0 0 6 -3");
@@ -155,6 +159,12 @@ public final class QuestionBoundsTest extends Checks {
         howIs(0, "seg 0 0 6 0; seg 0 1 6 1");
         howIs(0, "seg 0 0 6 3; seg 6 2 8 0");
         howIs(0, "seg 0 0 6 3; seg 2 0 3 1");
+        // beyond an END by the least part
+        howIs(0, "seg 0 0 1 0; seg 1 1 2 4");
+        howIs(0, "seg 0 0 1 0; seg 1 -1 2 -4");
+        howIs(0, "seg 0 0 1 0; seg 0 -4 1 -1");
+        howIs(0, "seg 0 0 1 0; seg -1 4 0 1");
+        howIs(0, "seg 0 0 999 998; seg 1 0 2 1");
         howIs(0, "seg -999 -999 998 997; seg 999 998 999 999");
         howIs(0, "seg -999 -999 999 999; seg -998 -999 999 998");
     }
@@ -324,6 +334,7 @@ public final class QuestionBoundsTest extends Checks {
         due(16, "with one that ends there", crossing(x, 1), "4 1 0 1 4 15 10");
         due(16, "in one alone", crossing(x, 2), "9 1 0 1 2 36 3");
         due(16, "in which two lie ALONG alone is none", x.count(1), 3);
+        due(16, "TINTS of the first and of the last", of("seg 0 0 4 4 tint 3; seg 0 4 4 0 tint 1").crossing(0, 6), 10);
         CrossingSweep all = new CrossingSweep();
         for (int i = 0; i < 24; i++) {
             all.add(-12, i - 12, 12, 12 - i, i / 6);
@@ -383,6 +394,8 @@ public final class QuestionBoundsTest extends Checks {
         CrossingSweep x = of("seg -4 -4 4 4; seg -4 4 4 -4; seg -4 0 4 0; seg -3 0 3 0; seg 0 0 0 5; seg 0 0 0 0");
         due(17, "SPREAD", x.event(4, 8), 5);
         due(17, "DEGREE: two of the level ones are one EDGE", x.event(4, 9), 7);
+        CrossingSweep four = of("seg -4 0 4 0; seg -4 0 4 0; seg -4 0 4 0; seg -4 0 4 0; seg 0 -4 0 4");
+        due(17, "SPREAD of four that lie ALONG one another and one across", four.event(2, 8), 4);
         due(17, "SPREAD of an END", x.event(0, 8), 0);
         due(17, "DEGREE of an END", x.event(0, 9), 1);
         due(17, "DEGREE of an END in another one", x.event(3, 9), 2);
@@ -452,6 +465,11 @@ public final class QuestionBoundsTest extends Checks {
         due(18, "in it: the one that rises less is ahead, an upright one is the last", status(x, 6), "8 1 2 3 0 4 6");
         due(18, "above it: as they leave it", status(x, 7), "8 1 2 3 0 4 6");
         due(18, "at the END of the upright one", status(x, 8), "8 1 2 3 0 4");
+        // they rise unlike by the least part, and are no wider than 1
+        CrossingSweep least = of("seg -1 0 1 1; seg 0 0 1 1; seg 1 -5 1 -5; seg 1 1 3 2; seg 1 1 2 2; seg 1 7 4 7");
+        due(18, "as they come to it", status(least, 2), "1 0");
+        due(18, "as they leave it", status(least, 3), "3 4");
+        due(18, "ahead of the one of the greater Y", status(least, 4), "3 4 5");
         // upright ones stand at the Y of the EVENT, of like ones the lesser number is ahead
         CrossingSweep tower = of("seg -1 3 3 3; seg 0 0 0 9; seg 0 1 0 9; seg -1 2 3 4; seg 0 0 0 4; seg -1 6 3 2");
         due(18, "ahead of all", status(tower, 3), "1 4 3 0 5");
@@ -517,6 +535,9 @@ public final class QuestionBoundsTest extends Checks {
         due(20, "from an END beside it", x.road(2, 8), 3);
         due(20, "from beside to beside", x.road(2, 7), 3);
         due(20, "by one of two", x.road(1, 9), 1);
+        CrossingSweep one = of("seg 0 0 9 0; seg 20 0 20 0");
+        due(20, "of one alone", one.road(0, 1), 1);
+        due(20, "and back", one.road(1, 0), 1);
         CrossingSweep along = of("seg 0 0 9 0; seg 3 0 6 0; seg 4 0 5 0");
         due(20, "ENDS of one that lies on it part it", row(6, k -> along.road(k, 5)), "5 4 3 2 1 0");
         CrossingSweep ladder = new CrossingSweep();
@@ -550,6 +571,7 @@ public final class QuestionBoundsTest extends Checks {
         due(21, "nobody first, nobody last", view(of("seg 0 0 0 9; seg 2 0 4 0; seg 6 5 6 9")), "3: -1 1 -1");
         due(21, "nobody alone", view(of("seg 0 0 0 9; seg 6 5 6 9")), "1: -1");
         due(21, "they change places", view(of("seg 0 0 4 4; seg 0 4 4 0")), "2: 1 0");
+        due(21, "two EVENTS of one X", view(of("seg 0 0 4 4; seg 0 4 4 0; seg 2 9 6 9")), "2: 1 2");
         due(21, "of two that lie ALONG one another the last of STATUS", view(of("seg 0 0 4 0; seg 2 0 6 0")), "2: 0 1");
         due(21, "of like ones the greatest number", view(of("seg 0 0 4 0; seg 0 0 4 0; seg 0 0 4 0")), "1: 2");
         due(21, "exact to the last part", view(of(CLOSE_BUNDLE)), "6: 0 2 1 2 0 1");
@@ -609,6 +631,8 @@ public final class QuestionBoundsTest extends Checks {
         hullIs("-9 3 9 3", "seg -9 3 1 3; seg 0 3 9 3");
         hullIs("0 0 4 0 4 4 0 4", "seg 0 0 4 4; seg 0 4 4 0; seg 2 0 2 4; seg 0 2 4 2; seg 2 2 2 2");
         hullIs("0 0 9 1 1 9", "seg 0 0 9 1; seg 1 9 5 5");
+        hullIs("0 0 1 0 0 1", "seg 0 0 0 1; seg 1 0 1 0");
+        hullIs("0 0 1 0 0 1", "seg 1 0 0 1; seg 0 0 0 0");
         hullIs("0 0 9 0 0 1", "seg 0 0 9 0; seg 0 1 1 0");
         hullIs("-3 0 0 -3 3 0 0 3", "seg -3 0 3 0; seg 0 -3 0 3");
         hullIs("0 0 1 -5 2 0", "seg 0 0 1 -5; seg 1 -5 2 0; seg 1 0 1 -4");

@@ -12,6 +12,7 @@ public final class TextBoundsTest extends Checks {
         promise02NoMoreThan400();
         promise02BehindWhatIsThere();
         promise03ItsFirstBytes();
+        promise03NoByteBehind();
         promise03NothingHappens();
         promise04AtMost14Acts();
         promise04TextsOf400Bytes();
@@ -118,6 +119,26 @@ public final class TextBoundsTest extends Checks {
         due(3, "none", x.end(0), true);
         due(3, "are left", x.end(1), false);
         due(3, "an empty text", x.acts(), 0);
+    }
+
+    private static void promise03NoByteBehind() {
+        String[][] texts = {{"seg 1 2 3", "-4"}, {"seg 1 2 3 ", "-4"}, {"cut ", "0"}, {"move 0 by 1", " 1"},
+            {"tint 0 ", "1"},
+            {"turn;", "turn"}, {"seg 1 2 -", "3 4"}, {"seg 1 2 3 4 tint", " 1"}};
+        for (String[] text : texts) {
+            CrossingSweep x = of(TWO);
+            put(x, text[0] + text[1]);
+            x.end(text[0].length());
+            refused(3, x, ARGUMENT, x::acts);
+            due(3, "'" + text[0] + "' alone", x.fault(), text[0].length());
+        }
+        CrossingSweep x = of(TWO);
+        put(x, "turn;x");
+        x.end(4);
+        due(3, "the wrong ones are gone", x.acts(), 1);
+        put(x, "cut 01");
+        x.end(5);
+        due(3, "the number's last is gone", x.acts() + x.count(0), 2);
     }
 
     private static void promise03NothingHappens() {
