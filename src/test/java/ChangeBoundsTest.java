@@ -243,6 +243,16 @@ public final class ChangeBoundsTest extends Checks {
                 refused(8, x, ARGUMENT, () -> x.move(0, by[0], by[1]));
             }
         }
+        CrossingSweep others = of("seg 0 0 1 1; seg -999 -998 -990 -989; seg 990 998 999 989; seg -5 -5 5 5");
+        refused(8, others, ARGUMENT, () -> others.move(1, -1, 0));
+        refused(8, others, ARGUMENT, () -> others.move(1, 0, -2));
+        refused(8, others, ARGUMENT, () -> others.move(2, 1, 0));
+        refused(8, others, ARGUMENT, () -> others.move(2, 0, 2));
+        due(8, "not the first's bounds, and across the third", others.move(1, 1989, 1987), 1);
+        due(8, "not the first's bounds", others.move(2, -1989, -1988), 0);
+        due(8, "not the others' bounds", others.move(0, 998, -999), 0);
+        due(8, "each by its own", ends(others), "998 -999 999 -998 0;990 989 999 998 0;-999 -990 -990 -999 0;"
+                + "-5 -5 5 5 0;");
         CrossingSweep point = of("seg -999 999 -999 999");
         due(8, "from bound to bound", point.move(0, 1998, -1998), 0);
         due(8, "is there", ends(point), "999 -999 999 -999 0;");

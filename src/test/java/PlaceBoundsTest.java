@@ -117,6 +117,13 @@ public final class PlaceBoundsTest extends Checks {
         due(27, "an upright one by its nearer END", upright.next(5, 0, false), 3);
         due(27, "it is the nearest", upright.next(5, 7, true), 0);
         due(27, "it is the nearest", upright.next(5, -7, false), 2);
+        CrossingSweep farther = of("seg 5 -20 5 -5; seg 0 -10 9 -10; seg 5 5 5 20; seg 0 10 9 10");
+        due(27, "its nearer END, though its farther one is beyond another", farther.next(5, 0, false), 0);
+        due(27, "its nearer END, though its farther one is beyond another", farther.next(5, 0, true), 2);
+        farther.turn();
+        farther.turn();
+        due(27, "about", farther.next(-5, 0, true), 0);
+        due(27, "about", farther.next(-5, 0, false), 2);
         due(27, "of like far ones the least", of("seg 5 10 5 20; seg 0 10 9 10").next(5, 0, true), 0);
         due(27, "of like far ones the least", of("seg 0 10 9 10; seg 5 10 5 20").next(5, 0, true), 0);
         CrossingSweep half = of("seg 0 0 2 1; seg 0 1 4 -1");

@@ -20,6 +20,7 @@ public final class QuestionBoundsTest extends Checks {
         promise12PiecesAndPart();
         promise13SegmentsAndOneTwice();
         promise13Hows();
+        promise13OfOthersThanTheFirst();
         promise14SegmentsAndWhats();
         promise14NumbersInLowestTerms();
         promise14WhetherTheyMeet();
@@ -146,6 +147,9 @@ public final class QuestionBoundsTest extends Checks {
         howIs(1, "seg 0 0 6 3; seg 4 2 4 2");
         howIs(1, "seg 0 0 6 3; seg 0 0 0 0");
         howIs(1, "seg 0 0 6 3; seg 6 3 6 3");
+        howIs(1, "seg 0 3 6 0; seg 0 3 0 3");
+        howIs(1, "seg 0 3 6 0; seg 6 0 6 0");
+        howIs(1, "seg 0 3 6 0; seg 2 2 2 2");
         howIs(1, "seg 0 0 0 3; seg 0 3 0 9");
         howIs(1, "seg 0 0 999 998; seg 999 998 999 999");
         howIs(0, "seg 0 0 6 3; seg 8 4 10 5");
@@ -167,6 +171,17 @@ public final class QuestionBoundsTest extends Checks {
         howIs(0, "seg 0 0 999 998; seg 1 0 2 1");
         howIs(0, "seg -999 -999 998 997; seg 999 998 999 999");
         howIs(0, "seg -999 -999 999 999; seg -998 -999 999 998");
+    }
+
+    private static void promise13OfOthersThanTheFirst() {
+        CrossingSweep x = of("seg 0 5 9 9; seg 0 1 9 4; seg 0 5 9 4; seg 0 5 9 4; seg 1 5 9 4; seg 0 5 8 4;"
+                + "seg 0 5 9 9");
+        due(13, "LEFT of unlike Y", x.how(1, 2), 1);
+        due(13, "both ENDS alike", x.how(2, 3), 4);
+        due(13, "LEFT of unlike X", x.how(3, 4), 1);
+        due(13, "RIGHT of unlike X", x.how(3, 5), 1);
+        due(13, "RIGHT of unlike Y", x.how(3, 6), 1);
+        due(13, "of the first and the last", x.how(0, 6), 4);
     }
 
     private static void promise14SegmentsAndWhats() {
@@ -635,6 +650,12 @@ public final class QuestionBoundsTest extends Checks {
         hullIs("0 0 1 0 0 1", "seg 1 0 0 1; seg 0 0 0 0");
         hullIs("0 0 9 0 0 1", "seg 0 0 9 0; seg 0 1 1 0");
         hullIs("-3 0 0 -3 3 0 0 3", "seg -3 0 3 0; seg 0 -3 0 3");
+        // of several ENDS of the least X the one of the least Y is the first, wherever it was told
+        hullIs("0 0 9 5 9 9 0 5", "seg 0 5 9 5; seg 0 0 9 9");
+        hullIs("0 0 9 5 9 9 0 5", "seg 0 0 9 9; seg 0 5 9 5");
+        hullIs("0 0 9 0 9 5 0 5", "seg 9 5 0 5; seg 9 0 0 0");
+        hullIs("-3 -9 0 -8 0 2 -3 5", "seg -3 5 0 2; seg -3 1 -3 2; seg 0 -8 -3 -9; seg -3 0 -3 0");
+        hullIs("0 6 3 -7 9 1 9 2", "seg 0 6 9 1; seg 3 -7 3 -6; seg 0 6 9 2");
         hullIs("0 0 1 -5 2 0", "seg 0 0 1 -5; seg 1 -5 2 0; seg 1 0 1 -4");
         hullIs("-999 -999 999 -999 999 999 -999 999",
                 "seg -999 -999 999 999; seg -999 999 999 -999; seg -999 -998 999 998");

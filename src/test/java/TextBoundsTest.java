@@ -34,6 +34,7 @@ public final class TextBoundsTest extends Checks {
         promise05Words();
         promise05BehindAMinus();
         promise05TheFirstThingThatCannotStand();
+        promise05TheFirstOfTwo();
         promise05ItStays();
         finish();
     }
@@ -550,6 +551,29 @@ public final class TextBoundsTest extends Checks {
         wrong("^\u0000");
         wrong("^\u00e4");
         wrong("turn^\u0000");
+    }
+
+    private static void promise05TheFirstOfTwo() {
+        wrong("turn;^;x");
+        wrong("^;;");
+        wrong("^x;y");
+        wrong("cut ^2; cut 2");
+        wrong("tint ^2 4");
+        wrong("tint 0 ^4; x");
+        wrong("seg 1 2 3 ^1000 tint 4");
+        wrong("seg 1 2 3 4 tint ^4; x");
+        wrong("^move 0 by 999 0; x");
+        wrong("^move 0 by 999 0; move 0 by 999 0");
+        wrong("move 0 by ^1000 1000");
+        wrong("move 0 ^x 1 1; x");
+        wrong("seg -^ -");
+        CrossingSweep full = of(TWELVE);
+        tell(full, TWELVE);
+        wrong(full, "^seg 0 0 9 9; x");
+        wrong(full, "^seg 0 0 9 9; seg 0 0 9 9");
+        wrong(full, "^seg 0 0 9 9;");
+        wrong(full, "turn; ^seg 0 0 9 9;;");
+        wrong(full, "turn;".repeat(13) + "^seg 0 0 9 9; turn");
     }
 
     private static void promise05ItStays() {
